@@ -1,0 +1,152 @@
+import java.util.NoSuchElementException;
+import java.util.TreeSet;
+
+/** Promises 25 to 28: shingles that versions share, and the index of them. */
+final class IndexTest {
+    public static void main(String[] args) {
+        promise25Shared();
+        promise26Shingle();
+        promise26ShingleOfFaces();
+        promise26ShingleRefuses();
+        promise27Indexed();
+        promise28Holders();
+        indexOfManyTexts();
+        Check.end();
+    }
+
+    private static TreeSet<Integer> shingles(String text) {
+        int[] codes = text.codePoints().toArray();
+        TreeSet<Integer> all = new TreeSet<>();
+        for (int i = 0; i + 3 < codes.length; i++) {
+            int h = 0;
+            for (int k = i; k < i + 4; k++) {
+                h = Integer.rotateLeft(h, 5) ^ codes[k];
+            }
+            all.add(h & ((1 << 20) - 1));
+        }
+        return all;
+    }
+
+    private static Homewatcher two() {
+        Homewatcher x = Scene.room(2);
+        Scene.save(x, 0, 0, -1, "abcdefgh");
+        Scene.save(x, 1, 0, -1, "zabcdezabcde");
+        return x;
+    }
+
+    private static void promise25Shared() {
+        Homewatcher x = two();
+        Check.same("in common: abcd, bcde", x.shared(0, 1), 2);
+        Check.same("the other way", x.shared(1, 0), 2);
+        Check.same("with itself", x.shared(0, 0), 5);
+        Check.same("with itself, unlike ones", x.shared(1, 1), x.of(1, 'u'));
+        Scene.save(x, 0, 0, -1, "abc");
+        Check.same("without shingles", x.shared(0, 2), 0);
+        Check.same("without shingles, itself", x.shared(2, 2), 0);
+        Check.noSuch("shared", 2, IndexTest::two, (y, version) -> y.shared(version, 0));
+        Check.noSuch("shared with", 2, IndexTest::two, (y, other) -> y.shared(0, other));
+    }
+
+    private static void promise26Shingle() {
+        String[] texts = {"abcd", "zyxwvutsrq", "aaaaaaaa", "abcabcabcabc", "the quick brown fox jumps over the lazy",
+            "abcdefghijklmnopqrstuvwxyzabcdefghijklmn", "zabc zabc abc", "aaab"};
+        for (String text : texts) {
+            rowIsDue(text);
+        }
+        Homewatcher x = Scene.room(1);
+        Scene.save(x, 0, 0, -1, "abcd");
+        int due = ((97 << 15) ^ (98 << 10) ^ (99 << 5) ^ 100) & 0xFFFFF;
+        Check.same("shingle of abcd", x.shingle(0, 0), due);
+    }
+
+    private static void rowIsDue(String text) {
+        Homewatcher x = Scene.room(1);
+        Scene.save(x, 0, 0, -1, text);
+        Check.same("unlike of " + text, x.of(0, 'u'), shingles(text).size());
+        int index = 0;
+        for (int due : shingles(text)) {
+            Check.same("shingle " + index + " of " + text, x.shingle(0, index), due);
+            index++;
+        }
+        int behind = index;
+        Check.fails("shingle behind the last", NoSuchElementException.class, () -> x.shingle(0, behind));
+    }
+
+    private static void promise26ShingleOfFaces() {
+        StringBuilder text = new StringBuilder();
+        for (int i = 0; i < 36; i++) {
+            text.appendCodePoint(128512 + i * 7 % 80);
+        }
+        rowIsDue(text.append("ab c").toString());
+        Homewatcher x = Scene.room(1);
+        for (int i = 0; i < 3; i++) {
+            x.type(128512);
+        }
+        x.save(0, 0, -1, 0);
+        Check.same("three signs of six chars", x.of(0, 'u'), 0);
+    }
+
+    private static void promise26ShingleRefuses() {
+        Check.noSuch("shingle", 2, IndexTest::two, (y, version) -> y.shingle(version, 0));
+        for (int index : new int[] {-1, 5, 6, 36, 37, Integer.MIN_VALUE, Integer.MAX_VALUE}) {
+            Check.refuses("shingle " + index, NoSuchElementException.class, IndexTest::two,
+                    y -> y.shingle(0, index));
+        }
+        Check.refuses("no version ahead of no shingle", IndexOutOfBoundsException.class, IndexTest::two,
+                y -> y.shingle(2, -1));
+    }
+
+    private static void promise27Indexed() {
+        Homewatcher x = two();
+        Check.same("none is in", x.indexed(), 0);
+        x.hand(0);
+        Check.same("one", x.indexed(), 5);
+        x.hand(1);
+        Check.same("unlike ones of both", x.indexed(), 5 + x.of(1, 'u') - 2);
+        x.withdraw(0);
+        Check.same("those shared stay", x.indexed(), x.of(1, 'u'));
+        x.withdraw(1);
+        Check.same("none again", x.indexed(), 0);
+    }
+
+    private static void promise28Holders() {
+        Homewatcher x = two();
+        int abcd = shingles("abcd").first();
+        int zabc = shingles("zabc").first();
+        Check.same("none is in", x.holders(abcd), 0);
+        x.hand(0);
+        x.hand(1);
+        Check.same("both", x.holders(abcd), 2);
+        Check.same("one that has it twice", x.holders(zabc), 1);
+        x.withdraw(0);
+        Check.same("one is left", x.holders(abcd), 1);
+        x.withdraw(1);
+        Check.same("none is left", x.holders(abcd), 0);
+        for (int shingle : new int[] {-1, 0, 1 << 20, abcd + (1 << 20), Integer.MIN_VALUE, Integer.MAX_VALUE}) {
+            Check.same("holders of " + shingle, x.holders(shingle), 0);
+        }
+    }
+
+    /** As many unlike shingles as there can be: 60 versions of 37. */
+    private static void indexOfManyTexts() {
+        Homewatcher x = Scene.room(1);
+        TreeSet<Integer> all = new TreeSet<>();
+        long seed = 7;
+        for (int i = 0; i < 60; i++) {
+            StringBuilder text = new StringBuilder();
+            for (int k = 0; k < 40; k++) {
+                seed = seed * 6364136223846793005L + 1442695040888963407L;
+                text.appendCodePoint((seed >>> 60) < 8 ? 97 + (int) ((seed >>> 40) % 26) : 128512 + (int) ((seed >>> 40) % 80));
+            }
+            Scene.handed(x, 0, 0, -1, text.toString());
+            all.addAll(shingles(text.toString()));
+        }
+        Check.same("many indexed", x.indexed(), all.size());
+        Check.same("isTrue", x.isTrue(), true);
+        for (int i = 0; i < 60; i += 2) {
+            x.withdraw(i);
+        }
+        Check.same("isTrue then", x.isTrue(), true);
+        Check.same("holders of the first", x.holders(x.shingle(1, 0)) > 0, true);
+    }
+}
