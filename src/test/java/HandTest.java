@@ -67,6 +67,7 @@ final class HandTest {
         Scene.handed(x, 0, 0, -1, "zzzzyyyyxxxx");
         Scene.handed(x, 0, 0, -1, "zzzzyyyy vvvv");
         Scene.handed(x, 1, 0, -1, "zzzzyyyyxxxx");
+        x.points(14, 60);
         Scene.handed(x, 2, 0, -1, "vvvv wwww");
         return x;
     }
@@ -90,8 +91,24 @@ final class HandTest {
         Check.same("none above forty", x.hand(Scene.save(x, 2, 0, -1, "mmmmnnnn")), 0);
         Check.fails("one above forty", IllegalStateException.class, () -> x.hand(three));
         Check.fails("handed in ahead of hits", UnsupportedOperationException.class, () -> x.hand(one));
+        fortyAreSeen(x);
         x.threshold(37);
         Check.same("handed in at last", x.hand(three), 0);
+    }
+
+    private static void fortyAreSeen(Homewatcher x) {
+        Check.same("the last of forty", x.hit(39, 'n'), 20);
+        Check.same("of pupil 2", x.isFrozen(2, 0), true);
+        Check.same("the next", x.next(), 36);
+        for (int hit = 0; hit < 39; hit++) {
+            Check.same("hear", x.hear(hit, 0), 39 - hit);
+        }
+        Check.same("frozen by the last", x.isFrozen(2, 0), true);
+        Check.same("by the last alone", x.next(), 39);
+        Check.same("none is open", x.hear(39, 1), 0);
+        Check.same("thawed", x.isFrozen(2, 0), false);
+        Check.same("lost by the last", x.mark(2, 0), 0);
+        Check.same("not lost", x.mark(1, 0), 60);
     }
 
     private static Homewatcher crowdedWith(String text) {

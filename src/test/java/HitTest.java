@@ -144,6 +144,11 @@ final class HitTest {
         x.hear(1, 1);
         x.hear(3, 1);
         Check.fails("none is open", NoSuchElementException.class, x::next);
+        Homewatcher least = Scene.room(2);
+        least.threshold(1);
+        Scene.handed(least, 0, 0, -1, "abcd");
+        Scene.handed(least, 1, 0, -1, "abcd");
+        Check.same("one in common", least.next(), 0);
         Check.refuses("no hits", NoSuchElementException.class, () -> Scene.room(1), Homewatcher::next);
     }
 }

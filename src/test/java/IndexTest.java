@@ -120,10 +120,14 @@ final class IndexTest {
         Check.same("one that has it twice", x.holders(zabc), 1);
         x.withdraw(0);
         Check.same("one is left", x.holders(abcd), 1);
+        int[] none = {-1, 0, 1 << 20, abcd - 1, abcd + 1, abcd + (1 << 20), Integer.MIN_VALUE, Integer.MAX_VALUE};
+        for (int shingle : none) {
+            Check.same("holders of " + shingle, x.holders(shingle), 0);
+        }
         x.withdraw(1);
         Check.same("none is left", x.holders(abcd), 0);
-        for (int shingle : new int[] {-1, 0, 1 << 20, abcd + (1 << 20), Integer.MIN_VALUE, Integer.MAX_VALUE}) {
-            Check.same("holders of " + shingle, x.holders(shingle), 0);
+        for (int shingle : none) {
+            Check.same("holders of " + shingle + " then", x.holders(shingle), 0);
         }
     }
 

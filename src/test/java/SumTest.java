@@ -67,6 +67,7 @@ final class SumTest {
         long due = 59L * (1L << 48) + 244L * (1L << 40) + 2L * (1L << 36) + 2L * (1L << 32) + 999955L;
         Check.same("packed", x.packed(last), due);
         Check.same("packed 1", x.packed(1), (1L << 48) + (1L << 32) + 999955L);
+        Check.noSuch("packed", 1, () -> saved("ab"), (y, version) -> y.packed(version));
     }
 
     private static Homewatcher noVersion() {
@@ -89,5 +90,9 @@ final class SumTest {
         Check.same("all", x.inShare(), 1f);
         x.withdraw(0);
         Check.same("two of three", x.inShare(), 2f / 3f);
+        for (int i = 3; i < 60; i++) {
+            x.save(0, 0, -1, 0);
+        }
+        Check.same("two of sixty", x.inShare(), 2f / 60f);
     }
 }

@@ -1,11 +1,17 @@
-/** Promise 39: isTrue holds in whatever state the calls have brought an object. */
+import java.lang.reflect.Array;
+import java.lang.reflect.Field;
+
+/** Promise 39: isTrue holds in whatever state the calls have brought an object, and sees what they can't bring. */
 final class TruthTest {
     private static final String TEXT = "abcdefgh";
 
-    public static void main(String[] args) {
+    public static void main(String[] args) throws ReflectiveOperationException {
         Check.same("a new object", new Homewatcher().isTrue(), true);
         handedAndWithdrawn();
         heardAndLate();
+        asMuchAsCanBe();
+        seesWrongIndex();
+        seesWrongVersion();
         Check.end();
     }
 
@@ -35,5 +41,70 @@ final class TruthTest {
         Scene.type(x, "typed on");
         Check.same("with a text typed", x.isTrue(), true);
         Check.same("nothing is wiped by it", x.wipe(), 8);
+    }
+
+    private static void asMuchAsCanBe() {
+        Homewatcher x = new Homewatcher();
+        x.classroom(0);
+        for (int pupil = 0; pupil < 12; pupil++) {
+            x.pupil(0);
+        }
+        for (int task = 0; task < 10; task++) {
+            x.task(0, 0, 100, 'g', 0);
+        }
+        for (int version = 0; version < 60; version++) {
+            x.points(Scene.handed(x, version % 12, version % 10, -1, version % 30 == 11 ? TEXT : "none"), 100);
+        }
+        Check.same("full", x.isTrue(), true);
+        Check.same("one hit freezes 2 of 120 marks, of which 60 are 100", x.meanMark(), 5800.0 / 118.0);
+    }
+
+    private static Homewatcher two() {
+        Homewatcher x = Scene.room(2);
+        Scene.handed(x, 0, 0, -1, TEXT);
+        Scene.handed(x, 0, 0, -1, "abcdxyz");
+        Scene.save(x, 1, 0, -1, TEXT);
+        Check.same("without a fault", x.isTrue(), true);
+        return x;
+    }
+
+    /** No call leads to a wrong index, so that the test has to write into the object. */
+    private static void seesWrongIndex() throws ReflectiveOperationException {
+        for (String row : new String[] {"keys", "counts"}) {
+            for (int place : new int[] {0, 3, 7}) {
+                Homewatcher x = two();
+                Array.setInt(get(get(x, "shingleIndex"), row), place, 999999);
+                Check.same("a wrong number in " + row, x.isTrue(), false);
+            }
+        }
+        Homewatcher x = two();
+        set(get(x, "shingleIndex"), "size", 7);
+        Check.same("a shingle too few", x.isTrue(), false);
+    }
+
+    private static void seesWrongVersion() throws ReflectiveOperationException {
+        for (int version = 0; version < 3; version++) {
+            Homewatcher x = two();
+            Object shingles = get(Array.get(get(x, "versions"), version), "shingles");
+            Array.setInt(get(shingles, "keys"), 0, 1);
+            Check.same("a wrong shingle of " + version, x.isTrue(), false);
+        }
+        Homewatcher x = two();
+        set(Array.get(get(x, "versions"), 1), "withdrawn", true);
+        Check.same("withdrawn, but in the index", x.isTrue(), false);
+    }
+
+    private static Field field(Object object, String name) throws ReflectiveOperationException {
+        Field field = object.getClass().getDeclaredField(name);
+        field.setAccessible(true);
+        return field;
+    }
+
+    private static Object get(Object object, String name) throws ReflectiveOperationException {
+        return field(object, name).get(object);
+    }
+
+    private static void set(Object object, String name, Object value) throws ReflectiveOperationException {
+        field(object, name).set(object, value);
     }
 }

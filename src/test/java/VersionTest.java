@@ -88,6 +88,7 @@ final class VersionTest {
         for (int i = 0; i < 60; i++) {
             Check.same("save up to 60", x.save(0, 0, i - 1, 0), i);
         }
+        Check.same("heads of a line of 60", x.heads(0, 0), 1);
         Check.refuses("save when full", IllegalStateException.class, VersionTest::full,
                 y -> y.save(0, 0, -1, 0));
     }
@@ -150,6 +151,11 @@ final class VersionTest {
         Check.same("heads for another task", x.heads(0, 1), 1);
         Check.same("heads of another pupil", x.heads(1, 0), 1);
         Check.same("heads of none", x.heads(1, 1), 0);
+        Homewatcher one = Scene.school();
+        one.save(0, 0, -1, 0);
+        Check.same("the first version is a head", one.heads(0, 0), 1);
+        one.save(0, 0, 0, 0);
+        Check.same("a parent is none", one.heads(0, 0), 1);
         Check.same("heads for another class", x.heads(0, 2), 0);
         x.save(0, 0, 7, 0);
         Check.same("a child takes the place", x.heads(0, 0), 4);
