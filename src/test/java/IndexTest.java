@@ -131,6 +131,14 @@ final class IndexTest {
         }
     }
 
+    private static TreeSet<Integer> row(Homewatcher x, int version) {
+        TreeSet<Integer> row = new TreeSet<>();
+        for (int i = 0; i < x.of(version, 'u'); i++) {
+            row.add(x.shingle(version, i));
+        }
+        return row;
+    }
+
     /** As many unlike shingles as there can be: 60 versions of 37. */
     private static void indexOfManyTexts() {
         Homewatcher x = Scene.room(1);
@@ -147,6 +155,12 @@ final class IndexTest {
         }
         Check.same("many indexed", x.indexed(), all.size());
         Check.same("isTrue", x.isTrue(), true);
+        for (int i = 1; i < 60; i++) {
+            TreeSet<Integer> both = row(x, i - 1);
+            both.retainAll(row(x, i));
+            Check.same("shared by full rows", x.shared(i - 1, i), both.size());
+            Check.same("shared the other way", x.shared(i, i - 1), both.size());
+        }
         for (int i = 0; i < 60; i += 2) {
             x.withdraw(i);
         }
