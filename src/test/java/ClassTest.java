@@ -99,6 +99,10 @@ final class ClassTest {
             Check.refuses("rule " + rule, IllegalArgumentException.class, ClassTest::twoClasses,
                     y -> y.task(1, 0, 1, rule, 0));
         }
+        Check.refuses("no class ahead of bad due", IndexOutOfBoundsException.class, ClassTest::twoClasses,
+                y -> y.task(2, -1, 0, 'h', 101));
+        Check.refuses("no class when full", IndexOutOfBoundsException.class, ClassTest::full,
+                y -> y.task(4, 0, 1, 'h', 0));
         Check.refuses("no class ahead of bad rule", IndexOutOfBoundsException.class, ClassTest::full,
                 y -> y.task(4, 0, 1, 'x', 0));
         Check.refuses("bad rule ahead of full", IllegalArgumentException.class, ClassTest::full,
@@ -119,6 +123,8 @@ final class ClassTest {
         Check.refuses("pass behind the end", IllegalStateException.class, ClassTest::lastMinute, y -> y.pass(1));
         Check.refuses("bad pass behind the end", IllegalArgumentException.class, ClassTest::lastMinute,
                 y -> y.pass(100001));
+        Check.refuses("no minutes at the end", IllegalArgumentException.class, ClassTest::lastMinute,
+                y -> y.pass(0));
     }
 
     private static Homewatcher lastMinute() {
@@ -141,6 +147,12 @@ final class ClassTest {
         x.pass(1000);
         Check.same("clock behind minutes", x.clock(0), 280);
         Check.same("the other clock", x.clock(1), 1720);
+        for (int i = 0; i < 9; i++) {
+            x.pass(100000);
+        }
+        x.pass(99000);
+        Check.same("clock at the end", x.clock(0), 1000000 - 720);
+        Check.same("clock behind the end", x.clock(1), 1000000 + 720);
         Check.noSuch("clock", 2, ClassTest::twoClasses, (y, room) -> y.clock(room));
     }
 }

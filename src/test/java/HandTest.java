@@ -3,19 +3,26 @@ import java.util.NoSuchElementException;
 /** Promises 16 to 19 and 22: handing in, withdrawing, what counts, and how late it is. */
 final class HandTest {
     private static final String TEXT = "abcdefgh";
+    private static final String LONGEST = "abcdefghijklmnopqrstuvwxyz zyxwvutsrqpon";
 
     public static void main(String[] args) {
         promise16Hand();
+        promise16HandBesideThoseIn();
         promise16HandRefuses();
         promise16HandFortyHits();
         promise17Withdraw();
         promise17WithdrawByClock();
+        promise17WithdrawByTask();
+        promise17WithdrawAtTheEnds();
         promise17WithdrawRefuses();
         promise18IsIn();
         promise19Late();
         promise19LateByAncestor();
         promise19LateHalf();
+        promise19LateHalfOfFew();
         promise19LateChain();
+        promise19LateByTask();
+        promise19LateMost();
         promise19LateRefuses();
         promise22Counting();
         Check.end();
@@ -37,6 +44,18 @@ final class HandTest {
         int e = Scene.save(x, 1, 1, -1, "unlike it all");
         Check.same("unlike text", x.hand(e), 0);
         Check.same("handed in later", x.of(e, 'h'), 4);
+    }
+
+    private static void promise16HandBesideThoseIn() {
+        Homewatcher x = Scene.room(2);
+        int never = Scene.save(x, 0, 0, -1, TEXT);
+        int gone = Scene.handed(x, 0, 0, -1, TEXT);
+        x.withdraw(gone);
+        Check.same("beside none that is in", x.hand(Scene.save(x, 1, 0, -1, TEXT)), 0);
+        Check.same("beside one that is in", x.hand(never), 1);
+        Check.same("the one that is in", x.hit(0, 'o'), 2);
+        Check.same("an empty text is like none", x.hand(x.save(1, 0, -1, 0)), 0);
+        Check.same("nor like another empty one", x.hand(x.save(0, 0, -1, 0)), 0);
     }
 
     /** Version 0 is in, 1 is withdrawn, 2 was never handed in. */
@@ -91,6 +110,7 @@ final class HandTest {
         Check.same("none above forty", x.hand(Scene.save(x, 2, 0, -1, "mmmmnnnn")), 0);
         Check.fails("one above forty", IllegalStateException.class, () -> x.hand(three));
         Check.fails("handed in ahead of hits", UnsupportedOperationException.class, () -> x.hand(one));
+        Check.fails("no version ahead of hits", IndexOutOfBoundsException.class, () -> x.hand(22));
         fortyAreSeen(x);
         x.threshold(37);
         Check.same("handed in at last", x.hand(three), 0);
@@ -153,6 +173,55 @@ final class HandTest {
         x.pass(1);
         Check.fails("behind it", UnsupportedOperationException.class, () -> x.withdraw(slower));
         Check.same("in still", x.isIn(slower), true);
+    }
+
+    /** Pupil 1 is for task 0 what neither pupil 0 is for it nor pupil 1 for task 1. */
+    private static void promise17WithdrawByTask() {
+        Homewatcher x = Scene.school();
+        Scene.handed(x, 0, 0, -1, "aaaa");
+        Scene.handed(x, 1, 1, -1, "bbbb");
+        int alone = Scene.handed(x, 1, 0, -1, "cccc");
+        x.pass(60);
+        Check.same("task 1 was due at 50, task 0 is not", x.withdraw(alone), false);
+        int two = Scene.handed(x, 1, 0, -1, "dddd");
+        Scene.handed(x, 1, 0, -1, "eeee");
+        Check.same("one more of both", x.withdraw(two), true);
+        Check.fails("of task 1", UnsupportedOperationException.class, () -> x.withdraw(1));
+    }
+
+    private static Homewatcher due(int offset, int due) {
+        Homewatcher x = new Homewatcher();
+        x.classroom(offset);
+        x.pupil(0);
+        x.task(0, due, 100, 'h', 1);
+        Scene.handed(x, 0, 0, -1, TEXT);
+        Scene.handed(x, 0, 0, -1, "zzzz");
+        return x;
+    }
+
+    private static Homewatcher at(int minute, Homewatcher x) {
+        int left = minute;
+        for (; left > 100000; left -= 100000) {
+            x.pass(100000);
+        }
+        if (left > 0) {
+            x.pass(left);
+        }
+        return x;
+    }
+
+    private static void promise17WithdrawAtTheEnds() {
+        Class<UnsupportedOperationException> late = UnsupportedOperationException.class;
+        Check.same("due at 0, in the minute 0", due(0, 0).withdraw(0), true);
+        Check.refuses("due at 0, behind it", late, () -> at(1, due(0, 0)), y -> y.withdraw(0));
+        Check.refuses("due ahead of the first minute", late, () -> due(720, 719), y -> y.withdraw(0));
+        Check.same("due in the first minute", due(720, 720).withdraw(1), true);
+        Check.same("due at 0, the clock goes behind", at(720, due(-720, 0)).withdraw(1), true);
+        Check.refuses("due at 0, the clock behind", late, () -> at(721, due(-720, 0)), y -> y.withdraw(0));
+        Check.same("due at the end", at(1000000, due(0, 1000000)).withdraw(0), true);
+        Check.same("due at the end of a clock ahead", at(999280, due(720, 1000000)).withdraw(0), true);
+        Check.refuses("behind the end of a clock ahead", late, () -> at(999281, due(720, 1000000)),
+                y -> y.withdraw(0));
     }
 
     private static void promise17WithdrawRefuses() {
@@ -251,6 +320,15 @@ final class HandTest {
         Check.same("none of one, cut to none", line("yyyy", "zzzz", "aaaaaaaaa").late(2), 0);
     }
 
+    private static void promise19LateHalfOfFew() {
+        Check.same("one of two is half", line("abcd", "zzzz", "abcde").late(2), 0);
+        Check.same("none of two is less", line("yyyy", "zzzz", "abcde").late(2), 400);
+        Check.same("one of three is half, cut", line("abcd", "zzzz", "abcdef").late(2), 0);
+        Check.same("none of three is less", line("yyyy", "zzzz", "abcdef").late(2), 400);
+        Check.same("18 of 37 are half, cut", line(LONGEST.substring(0, 21), "zzzz", LONGEST).late(2), 0);
+        Check.same("17 of 37 are less", line(LONGEST.substring(0, 20), "zzzz", LONGEST).late(2), 400);
+    }
+
     /** The ancestor's own minutes count, not what it gets of its ancestors. */
     private static void promise19LateChain() {
         Homewatcher x = line("aaaabbbb", "aaaabbbbcccc", "bbbbccccdddd");
@@ -259,6 +337,36 @@ final class HandTest {
         Check.same("first with third", x.shared(0, 2), 1);
         Check.same("second by the first", x.late(1), 0);
         Check.same("third by the second", x.late(2), 50);
+    }
+
+    /** The minutes of a version of pupil 1 for task 0 go by task 0, whenever task 1 is due. */
+    private static void promise19LateByTask() {
+        Homewatcher x = Scene.room(2);
+        x.task(0, 1000000, 100, 'h', 1);
+        x.pass(130);
+        int parent = Scene.handed(x, 1, 0, -1, TEXT);
+        x.pass(20);
+        Check.same("by the parent", x.late(Scene.handed(x, 1, 0, parent, TEXT)), 30);
+        Homewatcher far = Scene.room(1);
+        Scene.handed(far, 0, 0, -1, TEXT);
+        for (int i = 1; i < 59; i++) {
+            far.save(0, 0, i - 1, 0);
+        }
+        far.pass(101);
+        Check.same("by the first of sixty", far.late(Scene.handed(far, 0, 0, 58, TEXT)), 0);
+        Check.same("its parent is not in", far.isIn(58), false);
+    }
+
+    private static void promise19LateMost() {
+        Homewatcher x = at(1000000, due(720, 0));
+        int most = Scene.handed(x, 0, 0, -1, TEXT);
+        Check.same("as late as can be", x.late(most), 1000720);
+        Check.same("handed in at the minute 0", x.late(0), 720);
+        Check.same("by a child of one in at 0", x.late(Scene.handed(x, 0, 0, 0, TEXT)), 720);
+        Homewatcher slow = at(1000000, due(-720, 999280));
+        Check.same("in the due minute of a clock behind", slow.late(Scene.handed(slow, 0, 0, -1, TEXT)), 0);
+        Homewatcher slower = at(1000000, due(-720, 999279));
+        Check.same("a minute behind it", slower.late(Scene.handed(slower, 0, 0, -1, TEXT)), 1);
     }
 
     private static void promise19LateRefuses() {

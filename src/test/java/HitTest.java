@@ -50,8 +50,25 @@ final class HitTest {
         int copy = Scene.save(most, 1, 0, -1, longest);
         Check.same("unlike shingles", most.of(copy, 'u'), 37);
         Check.same("all at 37", most.hand(copy), 1);
+        Homewatcher less = Scene.room(2);
+        less.threshold(37);
+        Scene.handed(less, 0, 0, -1, longest.substring(0, 39).concat("z"));
+        int like = Scene.save(less, 1, 0, -1, longest);
+        Check.same("36 in common", less.shared(0, like), 36);
+        Check.same("36 at 37", less.hand(like), 0);
+        less.threshold(36);
+        Check.same("36 at 36", less.hand(Scene.save(less, 1, 0, -1, longest)), 1);
         first.threshold(1);
         Check.same("no hit comes by a lower one", first.hits(), 1);
+        Check.same("nor goes by a higher one", afterHigher(), 1);
+    }
+
+    private static int afterHigher() {
+        Homewatcher x = Scene.room(2);
+        Scene.handed(x, 0, 0, -1, TEXT);
+        Scene.handed(x, 1, 0, -1, TEXT);
+        x.threshold(37);
+        return x.hits();
     }
 
     /** Of pupils 0, 1, 2: hit 0 has 5 in common, hits 1 and 2 have 3. */
@@ -93,6 +110,11 @@ final class HitTest {
         x.threshold(30);
         Check.same("for ever", x.hit(0, 'c'), 5);
         Check.same("for ever", x.hit(0, 'n'), 1);
+        Check.same("for ever", x.hit(0, 'o'), 2);
+        Homewatcher all = three();
+        all.hear(1, 3);
+        Check.same("both lost", all.hit(1, 'h'), 3);
+        Check.same("not heard", all.hit(0, 'h'), -1);
     }
 
     private static void promise31HitRefuses() {

@@ -10,6 +10,7 @@ final class IndexTest {
         promise26ShingleRefuses();
         promise27Indexed();
         promise28Holders();
+        promise28HoldersMost();
         indexOfManyTexts();
         Check.end();
     }
@@ -57,6 +58,8 @@ final class IndexTest {
         Scene.save(x, 0, 0, -1, "abcd");
         int due = ((97 << 15) ^ (98 << 10) ^ (99 << 5) ^ 100) & 0xFFFFF;
         Check.same("shingle of abcd", x.shingle(0, 0), due);
+        Scene.save(x, 0, 0, -1, "zzzz");
+        Check.same("shingle of zzzz, of 20 bits", x.shingle(1, 0), ((122 << 15) ^ (122 << 10) ^ (122 << 5) ^ 122) % (1 << 20));
     }
 
     private static void rowIsDue(String text) {
@@ -129,6 +132,25 @@ final class IndexTest {
         for (int shingle : none) {
             Check.same("holders of " + shingle + " then", x.holders(shingle), 0);
         }
+    }
+
+    private static void promise28HoldersMost() {
+        Homewatcher x = Scene.room(1);
+        for (int i = 0; i < 60; i++) {
+            Scene.handed(x, 0, 0, -1, "abcd");
+        }
+        int abcd = shingles("abcd").first();
+        Check.same("held by all", x.holders(abcd), 60);
+        Check.same("one unlike", x.indexed(), 1);
+        for (int i = 59; i > 0; i--) {
+            x.withdraw(i);
+        }
+        Check.same("held by the first", x.holders(abcd), 1);
+        Check.same("one still", x.indexed(), 1);
+        x.withdraw(0);
+        Check.same("held by none", x.holders(abcd), 0);
+        Check.same("none indexed", x.indexed(), 0);
+        Check.same("the version has it still", x.shingle(0, 0), abcd);
     }
 
     private static TreeSet<Integer> row(Homewatcher x, int version) {

@@ -8,7 +8,10 @@ final class MarkTest {
         promise21Points();
         promise23Mark();
         promise23MarkLate();
+        promise23MarkAtTheEnds();
+        promise23MarkLateMost();
         promise23MarkLost();
+        promise23MarkLostByTask();
         promise23MarkRefuses();
         promise24IsFrozen();
         promise38MeanMark();
@@ -31,6 +34,11 @@ final class MarkTest {
         off('d', 7, new int[] {0, 1, 1440, 1441, 2880, 2881, 1000000}, new int[] {0, 7, 7, 14, 14, 21, 4865});
         off('g', 30, new int[] {0, 1, 30, 31, 1000000}, new int[] {0, 0, 0, 10, 10});
         off('g', 0, new int[] {0, 1}, new int[] {0, 10});
+        off('g', 100, new int[] {100, 101}, new int[] {0, 10});
+        off('d', 0, new int[] {1, 1000000}, new int[] {0, 0});
+        off('s', 0, new int[] {1, 1000000}, new int[] {0, 0});
+        off('h', 100, new int[] {1, 60, 61, 1000000}, new int[] {100, 100, 200, 1666700});
+        off('s', 1, new int[] {60, 179, 180, 239, 240, 299, 300, 359}, new int[] {2, 4, 8, 8, 16, 16, 32, 32});
         off('s', 3, new int[] {0, 1, 59, 60, 119, 120, 359, 360, 419, 420, 1920, 1000000},
                 new int[] {0, 3, 3, 6, 6, 12, 96, 192, 192, 192, 192, 192});
         off('s', 100, new int[] {1, 1000000}, new int[] {100, 6400});
@@ -114,6 +122,74 @@ final class MarkTest {
         Check.same("by the clock of the class", clock.mark(2, 2), 93);
     }
 
+    private static int mark(int full, int points, int minutesLate) {
+        Homewatcher x = new Homewatcher();
+        x.classroom(0);
+        x.pupil(0);
+        x.task(0, 0, full, 'h', 10);
+        x.points(x.save(0, 0, -1, 0), points);
+        if (minutesLate > 0) {
+            x.pass(minutesLate);
+        }
+        x.hand(0);
+        return x.mark(0, 0);
+    }
+
+    private static void promise23MarkAtTheEnds() {
+        Check.same("less than what is taken off", mark(100, 9, 1), 0);
+        Check.same("as much as is taken off", mark(100, 10, 1), 0);
+        Check.same("one more", mark(100, 11, 1), 1);
+        Check.same("much less", mark(100, 100, 100000), 0);
+        Check.same("full 1, not all points", mark(1, 99, 0), 0);
+        Check.same("full 1, all points", mark(1, 100, 0), 1);
+        Check.same("99 by 100", mark(3, 33, 0), 0);
+        Check.same("102 by 100", mark(3, 34, 0), 1);
+        Check.same("one point", mark(100, 1, 0), 1);
+        Check.same("no point", mark(100, 0, 0), 0);
+        Check.same("cut ahead of what is taken off", mark(25, 43, 1), 0);
+        Check.same("cut, and 10 off", mark(25, 99, 1), 14);
+    }
+
+    /** A version can be later than the minutes that off takes. */
+    private static void promise23MarkLateMost() {
+        int[] amounts = {100, 0, 100, 1};
+        int[] due = {0, 100, 90, 36};
+        for (int i = 0; i < due.length; i++) {
+            Homewatcher x = new Homewatcher();
+            x.classroom(720);
+            x.pupil(0);
+            x.task(0, 0, 100, "hdgs".charAt(i), amounts[i]);
+            for (int k = 0; k < 10; k++) {
+                x.pass(100000);
+            }
+            x.points(Scene.handed(x, 0, 0, -1, TEXT), 100);
+            Check.same("late by 1000720 by " + "hdgs".charAt(i), x.mark(0, 0), due[i]);
+        }
+    }
+
+    /** Each of three pupils has 80 for each of two tasks; a hit is of 1 for task 0 and of 2 for task 1. */
+    private static Homewatcher crossed() {
+        Homewatcher x = Scene.room(3);
+        x.task(0, 100, 100, 'h', 10);
+        for (int i = 0; i < 6; i++) {
+            String text = i == 2 || i == 5 ? TEXT : "zyxwvuts".substring(i, i + 3);
+            x.points(Scene.handed(x, i / 2, i % 2, -1, text), 80);
+        }
+        Check.same("one hit", x.hits(), 1);
+        return x;
+    }
+
+    private static void promise23MarkLostByTask() {
+        for (int who = 0; who < 4; who++) {
+            Homewatcher x = crossed();
+            x.hear(0, who);
+            for (int i = 0; i < 6; i++) {
+                boolean lost = i == 5 && (who & 1) != 0 || i == 2 && (who & 2) != 0;
+                Check.same("pupil " + i / 2 + ", task " + i % 2 + ", who " + who, x.mark(i / 2, i % 2), lost ? 0 : 80);
+            }
+        }
+    }
+
     private static void promise23MarkLost() {
         for (int who = 0; who < 4; who++) {
             Homewatcher x = handedIn(2);
@@ -139,6 +215,22 @@ final class MarkTest {
         Class<UnsupportedOperationException> due = UnsupportedOperationException.class;
         Check.refuses("frozen mark", due, () -> handedIn(2), y -> y.mark(0, 0));
         Check.refuses("frozen mark", due, () -> handedIn(2), y -> y.mark(1, 0));
+        for (int i = 0; i < 6; i++) {
+            int pupil = i / 2;
+            int task = i % 2;
+            if (i == 2 || i == 5) {
+                Check.refuses("frozen by the hit", due, MarkTest::crossed, y -> y.mark(pupil, task));
+            } else {
+                Check.same("not frozen by the hit", crossed().mark(pupil, task), 80);
+            }
+            Check.same("pupil " + pupil + ", task " + task, crossed().isFrozen(pupil, task), i == 2 || i == 5);
+        }
+        Homewatcher x = handedIn(3);
+        x.hear(0, 3);
+        Check.fails("lost, and frozen by another hit", due, () -> x.mark(0, 0));
+        x.hear(1, 0);
+        Check.same("lost, all of its hits are heard", x.mark(0, 0), 0);
+        Check.fails("frozen by the last hit", due, () -> x.mark(1, 0));
     }
 
     private static void promise24IsFrozen() {
@@ -188,7 +280,19 @@ final class MarkTest {
         Check.refuses("a new object", due, Homewatcher::new, Homewatcher::meanMark);
         Check.refuses("no pupil", due, () -> Scene.room(0), Homewatcher::meanMark);
         Check.refuses("all frozen", due, () -> handedIn(2), Homewatcher::meanMark);
+        Homewatcher x = handedIn(2);
+        x.hear(0, 1);
+        Check.same("none frozen", x.meanMark(), 40.0);
+        Check.same("two of six frozen", crossed().meanMark(), 80.0);
+        Check.refuses("no task", due, MarkTest::withoutTask, Homewatcher::meanMark);
         Check.refuses("no task of the class", due, MarkTest::apart, Homewatcher::meanMark);
+    }
+
+    private static Homewatcher withoutTask() {
+        Homewatcher x = new Homewatcher();
+        x.classroom(0);
+        x.pupil(0);
+        return x;
     }
 
     private static Homewatcher apart() {

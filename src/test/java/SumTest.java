@@ -42,6 +42,10 @@ final class SumTest {
         }
         Check.same("byteSum of faces", saved(faces()).byteSum(0), byteSum(faces()));
         Check.same("byteSum of zz", saved("zz").byteSum(0), (byte) -12);
+        Check.same("byteSum up to 127", saved("zzk ").byteSum(0), Byte.MAX_VALUE);
+        Check.same("byteSum beyond 127", saved("zzl ").byteSum(0), Byte.MIN_VALUE);
+        Check.same("byteSum up to 255", saved("ze ").byteSum(0), (byte) -1);
+        Check.same("byteSum beyond 255", saved("zf ").byteSum(0), (byte) 0);
         Check.noSuch("byteSum", 1, () -> saved("ab"), (y, version) -> y.byteSum(version));
     }
 
@@ -51,6 +55,8 @@ final class SumTest {
         }
         Check.same("shortSum of faces", saved(faces()).shortSum(0), shortSum(faces()));
         Check.same("shortSum of ab", saved("ab").shortSum(0), (short) (97 * 31 + 98));
+        Check.same("shortSum below 32768", saved("  z").shortSum(0), (short) 31866);
+        Check.same("shortSum beyond 32767", saved(" a ").shortSum(0), (short) -31745);
         Check.noSuch("shortSum", 1, () -> saved("ab"), (y, version) -> y.shortSum(version));
     }
 
@@ -67,6 +73,20 @@ final class SumTest {
         long due = 59L * (1L << 48) + 244L * (1L << 40) + 2L * (1L << 36) + 2L * (1L << 32) + 999955L;
         Check.same("packed", x.packed(last), due);
         Check.same("packed 1", x.packed(1), (1L << 48) + (1L << 32) + 999955L);
+        Homewatcher most = new Homewatcher();
+        most.classroom(0);
+        for (int i = 0; i < 12; i++) {
+            most.pupil(0);
+        }
+        for (int i = 0; i < 10; i++) {
+            most.task(0, 0, 1, 'h', 0);
+            most.pass(100000);
+        }
+        for (int i = 0; i < 59; i++) {
+            most.save(0, 0, -1, 0);
+        }
+        Scene.save(most, 11, 9, -1, "ze ");
+        Check.same("packed, each number the most", most.packed(59), 59L << 48 | 255L << 40 | 11L << 36 | 9L << 32 | 1000000);
         Check.noSuch("packed", 1, () -> saved("ab"), (y, version) -> y.packed(version));
     }
 

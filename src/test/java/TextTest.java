@@ -106,6 +106,16 @@ final class TextTest {
         Check.same("text", read(x, 4), due.toString());
         Check.same("reverse again", x.reverse(), 97);
         Check.same("text again", read(x, 4), new StringBuilder("ab").appendCodePoint(GRIN).toString());
+        Check.same("three signs still", x.wipe(), 3);
+        Check.same("reverse of a wiped text", x.reverse(), 0);
+        Homewatcher saved = Scene.room(1);
+        Scene.save(saved, 0, 0, -1, "abc");
+        Check.same("reverse of a saved text", saved.reverse(), 0);
+        Homewatcher most = fullText();
+        most.wipe();
+        Scene.type(most, "z".concat("a".repeat(38)).concat("b"));
+        Check.same("reverse of 40", most.reverse(), 98);
+        Check.same("the last of 40", most.charAt(39), 'z');
     }
 
     private static void promise10Wipe() {
@@ -118,6 +128,12 @@ final class TextTest {
         Check.same("text then", read(x, 1), "z");
     }
 
+    private static Homewatcher wiped() {
+        Homewatcher x = typed("abcd");
+        x.wipe();
+        return x;
+    }
+
     private static void promise11CharAt() {
         Homewatcher x = typed("q");
         x.type(LAST_FACE);
@@ -126,6 +142,16 @@ final class TextTest {
         Check.same("high char", (int) x.charAt(1), 0xD83D);
         Check.same("low char", (int) x.charAt(2), 0xDE4F);
         Check.same("space", x.charAt(3), ' ');
+        Homewatcher most = new Homewatcher();
+        for (int i = 0; i < 40; i++) {
+            most.type(LAST_FACE - i);
+        }
+        Check.same("the first of 80 chars", (int) most.charAt(0), 0xD83D);
+        Check.same("the last of 80 chars", (int) most.charAt(79), 0xDE4F - 39);
+        Check.fails("char 80", NoSuchElementException.class, () -> most.charAt(80));
+        Check.refuses("charAt 0 of nothing", NoSuchElementException.class, Homewatcher::new, y -> y.charAt(0));
+        Check.refuses("charAt 0 of a wiped text", NoSuchElementException.class, TextTest::wiped,
+                y -> y.charAt(0));
         for (int place : new int[] {-1, 4, 5, Integer.MIN_VALUE, Integer.MAX_VALUE}) {
             Check.refuses("charAt " + place, NoSuchElementException.class, () -> typed("abcd"),
                     y -> y.charAt(place));

@@ -77,9 +77,20 @@ final class TruthTest {
                 Check.same("a wrong number in " + row, x.isTrue(), false);
             }
         }
-        Homewatcher x = two();
-        set(get(x, "shingleIndex"), "size", 7);
-        Check.same("a shingle too few", x.isTrue(), false);
+        for (int place = 0; place < 8; place++) {
+            for (int step = -1; step <= 1; step += 2) {
+                Homewatcher x = two();
+                Object counts = get(get(x, "shingleIndex"), "counts");
+                Array.setInt(counts, place, Array.getInt(counts, place) + step);
+                Check.same("a holder more or fewer", x.isTrue(), false);
+            }
+        }
+        for (int size : new int[] {0, 7, 9}) {
+            Homewatcher x = two();
+            Check.same("indexed", x.indexed(), 8);
+            set(get(x, "shingleIndex"), "size", size);
+            Check.same("as many shingles as " + size, x.isTrue(), false);
+        }
     }
 
     private static void seesWrongVersion() throws ReflectiveOperationException {

@@ -4,10 +4,12 @@ import java.util.NoSuchElementException;
 final class VersionTest {
     public static void main(String[] args) {
         promise12Save();
+        promise12SaveParents();
         promise12SaveRefuses();
         promise12SaveOrder();
         promise12SaveFull();
         promise13Of();
+        promise13OfMost();
         promise14Forks();
         promise15Heads();
         Check.end();
@@ -31,6 +33,26 @@ final class VersionTest {
         Check.same("a child of the same minute", x.save(0, 0, 1, 0), 3);
         Scene.type(x, "z");
         Check.same("the text of 1 stays", x.of(1, 'n'), 4);
+        Check.same("the chars of 1 stay", x.byteSum(1), (byte) (97 + 98 + 99 + 100));
+        x.reverse();
+        x.insert(0, 'y');
+        Check.same("the chars of 0 stay", x.shortSum(0), (short) "abc".hashCode());
+        Check.same("an empty text stays", x.byteSum(2), (byte) 0);
+    }
+
+    /** A version may have any earlier one of both as its parent, whatever became of that one. */
+    private static void promise12SaveParents() {
+        Homewatcher x = Scene.school();
+        int in = Scene.handed(x, 0, 0, -1, "abcd");
+        int gone = Scene.handed(x, 0, 0, -1, "efgh");
+        x.withdraw(gone);
+        Check.same("under one that is in", x.of(x.save(0, 0, in, 0), 'p'), in);
+        Check.same("under a withdrawn one", x.of(x.save(0, 0, gone, 0), 'p'), gone);
+        Check.same("under a parent", x.of(x.save(0, 0, in, 0), 'p'), in);
+        Check.same("under none", x.of(x.save(0, 0, -1, 0), 'p'), -1);
+        Check.fails("under itself", IndexOutOfBoundsException.class, () -> x.save(0, 0, 6, 0));
+        Check.same("at the minute 0", x.of(0, 's'), 0);
+        Check.fails("a minute ahead of 0", IllegalArgumentException.class, () -> x.save(0, 0, -1, 1));
     }
 
     /** Pupil 0 has version 0 of minute 10 for task 0, pupil 1 version 1 for it; a text is typed. */
@@ -66,12 +88,28 @@ final class VersionTest {
                 y -> y.save(0, 2, 7, -1));
         Check.refuses("no pupil ahead of minutes", IndexOutOfBoundsException.class, VersionTest::begun,
                 y -> y.save(3, 2, -1, -1));
+        Check.refuses("no task ahead of minutes", IndexOutOfBoundsException.class, VersionTest::begun,
+                y -> y.save(0, 3, -1, -1));
+        Check.refuses("no version ahead of another class", IndexOutOfBoundsException.class, VersionTest::begun,
+                y -> y.save(0, 2, 2, 0));
+        Check.refuses("no version ahead of full", IndexOutOfBoundsException.class, VersionTest::full,
+                y -> y.save(0, 0, 60, 0));
+        Check.refuses("no pupil ahead of full", IndexOutOfBoundsException.class, VersionTest::full,
+                y -> y.save(3, 0, -1, 0));
+        Check.refuses("no task ahead of full", IndexOutOfBoundsException.class, VersionTest::full,
+                y -> y.save(0, 3, -1, 0));
+        Check.refuses("minutes ahead of another's parent", IllegalArgumentException.class, VersionTest::begun,
+                y -> y.save(0, 0, 1, 16));
         Check.refuses("minutes ahead of another class", IllegalArgumentException.class, VersionTest::begun,
                 y -> y.save(0, 2, -1, 16));
         Check.refuses("minutes ahead of full", IllegalArgumentException.class, VersionTest::full,
                 y -> y.save(0, 0, -1, -1));
         Check.refuses("another class ahead of full", UnsupportedOperationException.class, VersionTest::full,
                 y -> y.save(0, 2, -1, 0));
+        Check.refuses("another's parent ahead of full", UnsupportedOperationException.class, VersionTest::full,
+                y -> y.save(0, 0, 1, 0));
+        Check.refuses("another task's parent ahead of full", UnsupportedOperationException.class,
+                VersionTest::full, y -> y.save(0, 1, 0, 0));
     }
 
     private static Homewatcher full() {
@@ -114,12 +152,39 @@ final class VersionTest {
         }
         x.withdraw(second);
         Check.same("handed in once", x.of(second, 'h'), 35);
+        x.pass(5);
+        Check.same("by its first minute", x.of(second, 'h'), 35);
+        Homewatcher ahead = new Homewatcher();
+        ahead.classroom(60);
+        ahead.pupil(0);
+        ahead.task(0, 100, 100, 'h', 1);
+        ahead.pass(2);
+        ahead.hand(ahead.save(0, 0, -1, 1));
+        Check.same("handed in at a minute of the time", ahead.of(0, 'h'), 2);
+        Check.same("saved at a minute of the time", ahead.of(0, 's'), 1);
         Check.noSuch("of", 2, VersionTest::begun, (y, version) -> y.of(version, 'p'));
         for (char what : "PSHNCUGoabqz \0".toCharArray()) {
             Check.refuses("of " + what, IllegalArgumentException.class, VersionTest::begun, y -> y.of(1, what));
             Check.refuses("of none " + what, IndexOutOfBoundsException.class, VersionTest::begun,
                     y -> y.of(2, what));
         }
+    }
+
+    private static void promise13OfMost() {
+        Homewatcher x = Scene.room(1);
+        for (int i = 0; i < 40; i++) {
+            x.type(128512 + 2 * i);
+        }
+        int most = x.save(0, 0, -1, 0);
+        int three = Scene.save(x, 0, 0, -1, "abc");
+        int four = Scene.save(x, 0, 0, -1, "abcd");
+        int alike = Scene.save(x, 0, 0, -1, "aaaaa");
+        Check.same("40 signs", x.of(most, 'n'), 40);
+        Check.same("80 chars", x.of(most, 'c'), 80);
+        Check.same("37 unlike shingles", x.of(most, 'u'), 37);
+        Check.same("three signs have none", x.of(three, 'u'), 0);
+        Check.same("four signs have one", x.of(four, 'u'), 1);
+        Check.same("two alike are one", x.of(alike, 'u'), 1);
     }
 
     /** Of pupil 0: roots 0 and 1 for task 0, 2 and 3 and 4 under 0, and root 5 for task 1; of pupil 1 root 6. */
@@ -142,6 +207,13 @@ final class VersionTest {
         for (int i = 0; i < due.length; i++) {
             Check.same("forks of " + i, x.forks(i), due[i]);
         }
+        Homewatcher most = Scene.room(1);
+        Check.same("the first has none", most.forks(most.save(0, 0, -1, 0)), 0);
+        for (int i = 1; i < 60; i++) {
+            most.save(0, 0, -1, 0);
+        }
+        Check.same("as many as there can be", most.forks(59), 59);
+        Check.same("as many heads", most.heads(0, 0), 60);
         Check.noSuch("forks", 8, VersionTest::tree, (y, version) -> y.forks(version));
     }
 
