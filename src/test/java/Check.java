@@ -35,7 +35,17 @@ final class Check {
             Supplier<Homewatcher> maker, Consumer<Homewatcher> call) {
         Homewatcher called = maker.get();
         fails(what, due, () -> call.accept(called));
-        same(what + ", the object then", View.of(called), View.of(maker.get()));
+        same(what + ", the object then", View.of(() -> afterCall(maker, call)), View.of(maker));
+    }
+
+    private static Homewatcher afterCall(Supplier<Homewatcher> maker, Consumer<Homewatcher> call) {
+        Homewatcher called = maker.get();
+        try {
+            call.accept(called);
+        } catch (RuntimeException e) {
+            return called;
+        }
+        return called;
     }
 
     /** The limits of the numbers that are fine: one beyond either of them is refused. */

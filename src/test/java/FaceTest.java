@@ -57,7 +57,9 @@ final class FaceTest {
         methods();
         fields();
         Check.same("constructors", constructors(), List.of("public 0"));
-        Check.same("class is final", Modifier.isFinal(Homewatcher.class.getModifiers()), true);
+        Check.same("the class", Modifier.toString(Homewatcher.class.getModifiers()), "public final");
+        Check.same("its package", Homewatcher.class.getPackageName(), "");
+        inside();
         Check.end();
     }
 
@@ -105,7 +107,20 @@ final class FaceTest {
         List<String> all = new ArrayList<>();
         for (Constructor<?> one : Homewatcher.class.getDeclaredConstructors()) {
             all.add(Modifier.toString(one.getModifiers()) + " " + one.getParameterCount());
+            Check.same("what a constructor throws", one.getExceptionTypes().length, 0);
         }
         return all;
+    }
+
+    private static void inside() {
+        for (Class<?> one : Homewatcher.class.getDeclaredClasses()) {
+            int modifiers = one.getModifiers();
+            Check.same("static " + one.getName(), Modifier.isStatic(modifiers), true);
+            Check.same("open " + one.getName(), Modifier.isPublic(modifiers) || Modifier.isProtected(modifiers), false);
+            for (Field field : one.getDeclaredFields()) {
+                boolean constant = Modifier.isFinal(field.getModifiers());
+                Check.same("no static state in " + field, Modifier.isStatic(field.getModifiers()) && !constant, false);
+            }
+        }
     }
 }

@@ -11,7 +11,8 @@ final class IndexTest {
         promise27Indexed();
         promise28Holders();
         promise28HoldersMost();
-        indexOfManyTexts();
+        indexOfLongTexts();
+        indexOfMostTexts();
         Check.end();
     }
 
@@ -153,40 +154,62 @@ final class IndexTest {
         Check.same("the version has it still", x.shingle(0, 0), abcd);
     }
 
-    private static TreeSet<Integer> row(Homewatcher x, int version) {
-        TreeSet<Integer> row = new TreeSet<>();
-        for (int i = 0; i < x.of(version, 'u'); i++) {
-            row.add(x.shingle(version, i));
-        }
-        return row;
-    }
-
-    /** As many unlike shingles as there can be: 60 versions of 37. */
-    private static void indexOfManyTexts() {
-        Homewatcher x = Scene.room(1);
-        TreeSet<Integer> all = new TreeSet<>();
+    /** Texts of 40 signs, letters and faces, with hardly a shingle in common. */
+    private static String[] longTexts(int count) {
+        String[] texts = new String[count];
         long seed = 7;
-        for (int i = 0; i < 60; i++) {
+        for (int i = 0; i < count; i++) {
             StringBuilder text = new StringBuilder();
             for (int k = 0; k < 40; k++) {
                 seed = seed * 6364136223846793005L + 1442695040888963407L;
-                text.appendCodePoint((seed >>> 60) < 8 ? 97 + (int) ((seed >>> 40) % 26) : 128512 + (int) ((seed >>> 40) % 80));
+                int dice = (int) (seed >>> 40);
+                text.appendCodePoint((seed >>> 63) == 0 ? 97 + dice % 26 : 128512 + dice % 80);
             }
-            Scene.handed(x, 0, 0, -1, text.toString());
-            all.addAll(shingles(text.toString()));
+            texts[i] = text.toString();
         }
-        Check.same("many indexed", x.indexed(), all.size());
+        return texts;
+    }
+
+    private static TreeSet<Integer> shinglesOf(String[] texts, int first, int step) {
+        TreeSet<Integer> all = new TreeSet<>();
+        for (int i = first; i < texts.length; i += step) {
+            all.addAll(shingles(texts[i]));
+        }
+        return all;
+    }
+
+    private static void indexOfLongTexts() {
+        Homewatcher x = Scene.room(1);
+        String[] texts = longTexts(10);
+        for (String text : texts) {
+            Scene.handed(x, 0, 0, -1, text);
+        }
+        Check.same("many indexed", x.indexed(), shinglesOf(texts, 0, 1).size());
         Check.same("isTrue", x.isTrue(), true);
-        for (int i = 1; i < 60; i++) {
-            TreeSet<Integer> both = row(x, i - 1);
-            both.retainAll(row(x, i));
+        for (int i = 1; i < texts.length; i++) {
+            TreeSet<Integer> both = shingles(texts[i - 1]);
+            both.retainAll(shingles(texts[i]));
             Check.same("shared by full rows", x.shared(i - 1, i), both.size());
             Check.same("shared the other way", x.shared(i, i - 1), both.size());
         }
-        for (int i = 0; i < 60; i += 2) {
+        for (int i = 0; i < texts.length; i += 2) {
             x.withdraw(i);
         }
+        Check.same("every other one indexed", x.indexed(), shinglesOf(texts, 1, 2).size());
         Check.same("isTrue then", x.isTrue(), true);
-        Check.same("holders of the first", x.holders(x.shingle(1, 0)) > 0, true);
+        Check.same("holders of the first", x.holders(shingles(texts[1]).first()) > 0, true);
+    }
+
+    /** 12 texts of 40 signs are as many as 512 calls can bring into the index. */
+    private static void indexOfMostTexts() {
+        Homewatcher x = Scene.room(1);
+        String[] texts = longTexts(12);
+        for (String text : texts) {
+            Scene.handed(x, 0, 0, -1, text);
+        }
+        Check.same("the most indexed", x.indexed(), shinglesOf(texts, 0, 1).size());
+        Check.same("isTrue with the most", x.isTrue(), true);
+        x.withdraw(11);
+        Check.same("isTrue with one less", x.isTrue(), true);
     }
 }

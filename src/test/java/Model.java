@@ -58,6 +58,22 @@ final class Model {
     private int time = 0;
     private int threshold = 3;
 
+    int signCount() {
+        return typed.size();
+    }
+
+    int versionCount() {
+        return versions.size();
+    }
+
+    int pupilOf(int version) {
+        return versions.get(version).pupil;
+    }
+
+    int taskOf(int version) {
+        return versions.get(version).task;
+    }
+
     private static void in(List<?> list, int number) {
         if (number < 0 || number >= list.size()) {
             throw new IndexOutOfBoundsException();

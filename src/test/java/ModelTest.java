@@ -2,18 +2,25 @@ import java.util.function.Supplier;
 
 /** Long runs of calls, the same ones each time, on the program and on the model: all answers are alike. */
 final class ModelTest {
-    private static final int RUNS = 400;
+    private static final int RUNS = 600;
     private static final int CALLS = 512;
     private static final String RULES = "hdgsx";
     private static final String LETTERS = "pshncugx";
     private static final String HIT_LETTERS = "nochx";
     private static final String[] WORDS = {"abcdefgh", "abcde", "defghabc", "zzzzz", "the cat", "aaaa", "hgfedcba", "ab"};
+    private static final String[] SHORT_WORDS = {"aaaa", "abcd", "aaab", "bcd"};
+    private static final int LONG_TEXTS = 1;
+    private static final int MANY_VERSIONS = 2;
+    private static final int FACES = 3;
+    private static final int LATE = 4;
+    private static final int KINDS = 5;
 
     private long seed;
     private final Homewatcher x = new Homewatcher();
     private final Model m = new Model();
     private StringBuilder trace = new StringBuilder();
     private boolean like = true;
+    private int calls = 0;
 
     private ModelTest(long seed) {
         this.seed = seed;
@@ -23,8 +30,8 @@ final class ModelTest {
         int answers = 0;
         for (int run = 0; run < RUNS; run++) {
             ModelTest test = new ModelTest(run * 7919L + 13);
-            int calls = test.play(run % 4);
-            answers += calls;
+            test.play(run % KINDS);
+            answers += test.calls;
             Check.same("run " + run + " is like the model" + (test.like ? "" : test.trace), test.like, true);
         }
         System.out.println(answers + " answers");
@@ -42,72 +49,79 @@ final class ModelTest {
         return any(20) == 0 ? any(count + 3) - 1 : any(Math.max(1, count));
     }
 
-    private int play(int kind) {
-        int calls = begin(kind);
-        while (calls < CALLS && like) {
-            step(kind);
-            calls++;
-        }
-        return calls;
+    private int version() {
+        return near(m.versionCount());
     }
 
-    private int begin(int kind) {
-        int rooms = kind == 0 ? 1 : 2;
+    private void play(int kind) {
+        begin(kind);
+        while (calls < CALLS && like) {
+            step(kind);
+        }
+    }
+
+    private void begin(int kind) {
+        int rooms = kind == 0 || kind == MANY_VERSIONS ? 1 : 2;
         for (int i = 0; i < rooms; i++) {
             int offset = any(1441) - 720;
             both("classroom " + offset, () -> x.classroom(offset), () -> m.classroom(offset));
         }
-        for (int i = 0; i < 3; i++) {
+        for (int i = 0; i < 4; i++) {
             int room = any(rooms);
             both("pupil " + room, () -> x.pupil(room), () -> m.pupil(room));
         }
-        for (int i = 0; i < 2; i++) {
-            int room = any(rooms);
-            int due = any(3000);
+        for (int i = 0; i < 3; i++) {
+            int room = i % rooms;
+            int due = any(kind == LATE ? 300 : 3000);
             char rule = RULES.charAt(any(4));
             int amount = any(20);
             both("task " + room + " " + due + rule + amount, () -> x.task(room, due, 90, rule, amount),
                     () -> m.task(room, due, 90, rule, amount));
         }
-        return rooms + 5;
+        if (kind == MANY_VERSIONS) {
+            both("threshold 1", () -> x.threshold(1), () -> m.threshold(1));
+        }
     }
 
     private void step(int kind) {
         int dice = any(100);
-        if (dice < 34) {
+        if (kind == MANY_VERSIONS) {
+            dice = 30 + any(70);
+        }
+        if (dice < 30) {
             write(kind);
-        } else if (dice < 58) {
+        } else if (dice < 62) {
             keep(kind);
-        } else if (dice < 66) {
-            set(any(8));
+        } else if (dice < 70) {
+            set(any(20));
         } else if (dice < 84) {
             look(any(15));
         } else {
-            lookAtMarks(any(9));
+            lookAtMarks(any(11));
         }
     }
 
     private void write(int kind) {
-        int dice = any(40);
-        if (dice < 30) {
-            int code = kind == 3 ? 128512 + any(80) : 97 + any(3);
+        int dice = any(30);
+        if (dice < (kind == LONG_TEXTS || kind == FACES ? 24 : 8)) {
+            int code = kind == FACES ? 128512 + any(80) : 97 + any(3);
             both("type " + code, () -> x.type(code), () -> m.type(code));
-        } else if (dice < 35) {
-            int place = any(44) - 2;
+        } else if (dice < 12 || dice == 24) {
+            int place = any(60) == 0 ? any(44) - 2 : any(1 + m.signCount());
             int code = any(10) == 0 ? any(130) : 128500 + any(100);
             both("insert " + place + " " + code, () -> x.insert(place, code), () -> m.insert(place, code));
-        } else if (dice < 37) {
+        } else if (dice < 14 || dice == 25) {
             both("reverse", () -> x.reverse(), () -> m.reverse());
-        } else if (dice < 38) {
+        } else if (dice < 15 || dice == 26 && any(8) == 0) {
             both("wipe", () -> x.wipe(), () -> m.wipe());
         } else {
-            int place = any(90) - 2;
+            int place = near(m.signCount() * 2);
             both("charAt " + place, () -> x.charAt(place), () -> m.charAt(place));
         }
     }
 
-    private void word() {
-        String word = WORDS[any(WORDS.length)];
+    private void word(String[] words) {
+        String word = words[any(words.length)];
         for (int i = 0; i < word.length(); i++) {
             int code = word.charAt(i);
             both("type " + code, () -> x.type(code), () -> m.type(code));
@@ -115,23 +129,30 @@ final class ModelTest {
     }
 
     private void keep(int kind) {
-        int dice = any(12);
-        int version = near(30);
-        if (dice < 5) {
-            if (any(3) > 0) {
-                word();
-            }
-            int pupil = near(4);
-            int task = near(3);
-            int parent = any(3) == 0 ? -1 : near(20);
-            int ago = any(4) == 0 ? any(500) : 0;
-            both("save " + pupil + " " + task + " " + parent + " " + ago,
-                    () -> x.save(pupil, task, parent, ago), () -> m.save(pupil, task, parent, ago));
-        } else if (dice < 10) {
+        int dice = any(20);
+        int version = any(4) == 0 ? m.versionCount() - 1 : version();
+        if (dice < 8) {
+            save(kind);
+        } else if (dice < 17) {
             both("hand " + version, () -> x.hand(version), () -> m.hand(version));
         } else {
             both("withdraw " + version, () -> x.withdraw(version), () -> m.withdraw(version));
         }
+    }
+
+    private void save(int kind) {
+        if (kind == MANY_VERSIONS) {
+            word(SHORT_WORDS);
+        } else if (any(4) > 0) {
+            word(WORDS);
+        }
+        int parent = any(3) == 0 ? -1 : version();
+        boolean child = parent >= 0 && parent < m.versionCount() && any(6) > 0;
+        int pupil = child ? m.pupilOf(parent) : near(4);
+        int task = child ? m.taskOf(parent) : near(3);
+        int ago = any(4) == 0 ? any(500) : 0;
+        both("save " + pupil + " " + task + " " + parent + " " + ago,
+                () -> x.save(pupil, task, parent, ago), () -> m.save(pupil, task, parent, ago));
     }
 
     private void set(int dice) {
@@ -148,41 +169,49 @@ final class ModelTest {
             int amount = any(110) - 4;
             both("task " + a + " " + due + " " + full + rule + amount,
                     () -> x.task(a, due, full, rule, amount), () -> m.task(a, due, full, rule, amount));
-        } else if (dice < 5) {
-            int minutes = any(6) == 0 ? any(100100) : any(300);
+        } else if (dice < 8) {
+            int minutes = any(40) == 0 ? any(100100) : any(100);
             both("pass " + minutes, () -> x.pass(minutes), () -> m.pass(minutes));
-        } else if (dice == 5) {
+        } else if (dice == 8) {
             int threshold = any(4) == 0 ? any(40) - 1 : 1 + any(5);
             both("threshold " + threshold, () -> x.threshold(threshold), () -> m.threshold(threshold));
         } else {
-            int version = near(30);
-            int points = any(110) - 4;
+            int version = version();
+            int points = any(10) == 0 ? any(110) - 4 : 60 + any(41);
             both("points " + version + " " + points,
                     () -> x.points(version, points), () -> m.points(version, points));
         }
     }
 
     private void look(int dice) {
-        int a = near(40);
-        int b = near(40);
+        int a = version();
+        int b = version();
         switch (dice) {
             case 0: both("forks " + a, () -> x.forks(a), () -> m.forks(a)); break;
             case 1: both("isIn " + a, () -> x.isIn(a), () -> m.isIn(a)); break;
             case 2: case 3: both("late " + a, () -> x.late(a), () -> m.late(a)); break;
             case 4: both("shared " + a + " " + b, () -> x.shared(a, b), () -> m.shared(a, b)); break;
-            case 5: both("shingle " + a + " " + b, () -> x.shingle(a, b), () -> m.shingle(a, b)); break;
+            case 5: shingle(a, any(8) == 0 ? any(40) - 1 : any(5)); break;
             case 6: both("indexed", () -> x.indexed(), () -> m.indexed()); break;
-            case 7: holders(a, b); break;
+            case 7: holders(a, any(5)); break;
             case 8: both("byteSum " + a, () -> x.byteSum(a), () -> m.byteSum(a)); break;
             case 9: both("shortSum " + a, () -> x.shortSum(a), () -> m.shortSum(a)); break;
             case 10: both("packed " + a, () -> x.packed(a), () -> m.packed(a)); break;
             case 11: both("inShare", () -> x.inShare(), () -> m.inShare()); break;
             case 12: both("isTrue", () -> x.isTrue(), () -> m.isTrue()); break;
-            case 13: both("clock " + a / 8, () -> x.clock(a / 8), () -> m.clock(a / 8)); break;
+            case 13: clock(near(3)); break;
             default:
                 char what = LETTERS.charAt(any(8));
                 both("of " + a + what, () -> x.of(a, what), () -> m.of(a, what));
         }
+    }
+
+    private void shingle(int version, int index) {
+        both("shingle " + version + " " + index, () -> x.shingle(version, index), () -> m.shingle(version, index));
+    }
+
+    private void clock(int room) {
+        both("clock " + room, () -> x.clock(room), () -> m.clock(room));
     }
 
     /** Asks for a shingle that a version has, where there is one. */
@@ -198,9 +227,11 @@ final class ModelTest {
     }
 
     private void lookAtMarks(int dice) {
-        int pupil = near(4);
-        int task = near(3);
-        int hit = near(10);
+        int version = any(3) == 0 ? -1 : version();
+        boolean known = version >= 0 && version < m.versionCount();
+        int pupil = known ? m.pupilOf(version) : near(4);
+        int task = known ? m.taskOf(version) : near(3);
+        int hit = near(m.hits());
         String pair = " " + pupil + " " + task;
         switch (dice) {
             case 0: both("heads" + pair, () -> x.heads(pupil, task), () -> m.heads(pupil, task)); break;
@@ -216,18 +247,21 @@ final class ModelTest {
                 int who = any(30) == 0 ? any(7) - 1 : any(4);
                 both("hear " + hit + " " + who, () -> x.hear(hit, who), () -> m.hear(hit, who));
                 break;
-            default:
+            case 8:
                 int late = any(3) == 0 ? any(1000100) - 50 : any(500);
                 both("off " + task + " " + late, () -> x.off(task, late), () -> m.off(task, late));
-                both("next", () -> x.next(), () -> m.next());
-                both("hits", () -> x.hits(), () -> m.hits());
+                break;
+            case 9: both("next", () -> x.next(), () -> m.next()); break;
+            default: both("hits", () -> x.hits(), () -> m.hits());
         }
     }
 
+    /** One call more of both, as long as they are alike and the document says what is due. */
     private void both(String what, Supplier<Object> got, Supplier<Object> due) {
-        if (!like) {
+        if (!like || calls >= CALLS) {
             return;
         }
+        calls++;
         String mine = answer(got);
         String models = answer(due);
         trace.append('\n').append(what).append(" -> ").append(mine);
