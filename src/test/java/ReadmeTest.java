@@ -95,7 +95,16 @@ final class ReadmeTest {
 
     /** Each method has a row, with its parameters and with what it throws, in the document's order. */
     private static void tableOfCalls(List<String> lines) {
-        Set<String> told = new TreeSet<>();
+        Set<String> extra = rows(lines);
+        extra.removeAll(methods());
+        Check.same("README.md: rows that no method has", extra, Set.of());
+        Set<String> missing = methods();
+        missing.removeAll(rows(lines));
+        Check.same("README.md: methods without their row", missing, Set.of());
+    }
+
+    private static Set<String> rows(List<String> lines) {
+        Set<String> rows = new TreeSet<>();
         for (String line : lines) {
             Matcher row = ROW.matcher(line);
             if (row.matches()) {
@@ -105,20 +114,24 @@ final class ReadmeTest {
                 while (thrown.find()) {
                     one.append(' ').append(thrown.group());
                 }
-                told.add(one.toString());
+                rows.add(one.toString());
             }
         }
-        Set<String> due = new TreeSet<>();
+        return rows;
+    }
+
+    private static Set<String> methods() {
+        Set<String> methods = new TreeSet<>();
         for (Method method : Homewatcher.class.getDeclaredMethods()) {
             if (Modifier.isPublic(method.getModifiers())) {
                 StringBuilder one = new StringBuilder(method.getName()).append(' ').append(method.getParameterCount());
                 for (Class<?> thrown : method.getExceptionTypes()) {
                     one.append(' ').append(thrown.getSimpleName());
                 }
-                due.add(one.toString());
+                methods.add(one.toString());
             }
         }
-        Check.same("README.md: the table of calls", told, due);
+        return methods;
     }
 
     private static void tableOfTests(List<String> lines) throws IOException {
